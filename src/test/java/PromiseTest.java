@@ -80,6 +80,13 @@ public final class PromiseTest {
         50, 50, -50, -50, 0,
         50, -50, -50, 50, 0};
 
+    // Products of its numbers reach 2 to the power 40: where an int wraps, its rank is lost.
+    private static final int[] POWERS_OF_TWO = {
+        32, 0, 0, 0, 32,
+        0, 32, 0, 0, 32,
+        0, 0, 32, 0, 32,
+        0, 0, 0, 32, 32};
+
     private static void newObject() {
         promise = "promise 1";
         dueNumbers("new", new DeterminantDesk(), new int[20]);
@@ -180,7 +187,7 @@ public final class PromiseTest {
         due("addRow(1, 0, 9)", x.addRow(1, 0, 9), true);
         due("at(1, 0)", x.at(1, 0), 18);
         due("addRow(1, 0, -9)", x.addRow(1, 0, -9), true);
-        int[] badFactors = {10, -10, 256, 1 << 30, 1 << 31, LEAST, MOST};
+        int[] badFactors = {10, -10, 256, 1 << 30, LEAST, MOST};
         for (int bad : badFactors) {
             due("addRow(1, 0, " + bad + ")", x.addRow(1, 0, bad), false);
             due("addRow of zeros, " + bad + " times", new DeterminantDesk().addRow(1, 0, bad), false);
@@ -321,6 +328,7 @@ public final class PromiseTest {
         due("counted", desk(COUNTED).rank(), 2);
         due("diagonal", desk(DIAGONAL).rank(), 4);
         due("the greatest", desk(HADAMARD).rank(), 4);
+        due("powers of two", desk(POWERS_OF_TWO).rank(), 4);
         due("the COLUMN is not the matrix's", desk(
                 0, 0, 0, 0, 1,
                 0, 0, 0, 0, 2,
@@ -353,6 +361,12 @@ public final class PromiseTest {
         due("all 0", new DeterminantDesk().wideRank(), 0);
         due("counted", desk(COUNTED).wideRank(), 2);
         due("diagonal", desk(DIAGONAL).wideRank(), 4);
+        due("powers of two", desk(POWERS_OF_TWO).wideRank(), 4);
+        due("the COLUMN's number goes with its row", desk(
+                0, 0, 0, 0, 1,
+                1, 0, 0, 0, 0,
+                0, 0, 0, 0, 0,
+                0, 0, 0, 0, 0).wideRank(), 2);
         due("the COLUMN alone", desk(
                 0, 0, 0, 0, 0,
                 0, 0, 0, 0, 0,
