@@ -39,7 +39,10 @@ import javax.tools.JavaCompiler;
 import javax.tools.StandardJavaFileManager;
 import javax.tools.ToolProvider;
 
-/** The rules of LANGUAGE.md that can be read off the code itself, each complaint with its rule's number. */
+/**
+ * Most rules of LANGUAGE.md, read off the code, each complaint with its rule's number. It does not see whether
+ * a call may throw (rule 7), whether a bound is reached (rule 8), or array aliases and comparisons (rule 4).
+ */
 public final class FormTest extends TreePathScanner<Void, Void> {
     private static final File SOURCE = new File("src/main/java/DeterminantDesk.java");
     private static final int MOST_PARAMETERS = 7;
